@@ -350,6 +350,7 @@ public final class WordsFirst {
         if (n < 0 || n > MOST_LESSONS) {
             return OUTSIDE;
         }
+        lessonPlan.findBest(child);
         return lessonPlan.bestShare(child, n);
     }
 
@@ -491,7 +492,8 @@ public final class WordsFirst {
 
     /** Each set's number becomes the sum of the numbers of all sets within it. */
     private static void addUpSubsets(int[] row) {
-        for (int bit = 1; bit < SIGN_SETS; bit += bit) {
+        for (int sign = 0; sign < SIGN_COUNT; sign++) {
+            int bit = 1 << sign;
             for (int set = 0; set < SIGN_SETS && set < row.length; set++) {
                 if ((set & bit) != 0) {
                     row[set] += row[set ^ bit];
@@ -1054,16 +1056,22 @@ public final class WordsFirst {
             weighSets();
             ahead[SIGN_SETS - 1] = 0;
             for (int set = SIGN_SETS - 2; set >= 0; set--) {
-                ahead[set] = 0;
-                for (int bit = 1; bit < SIGN_SETS; bit += bit) {
-                    if ((set & bit) == 0) {
-                        ahead[set] = Math.max(ahead[set], worth[set | bit] + ahead[set | bit]);
-                    }
-                }
+                ahead[set] = bestAhead(set);
             }
             orderSum = ahead[0];
             pickOrder();
             orderFound = true;
+        }
+
+        private int bestAhead(int set) {
+            int best = 0;
+            for (int sign = 0; sign < SIGN_COUNT; sign++) {
+                int more = set | 1 << sign;
+                if (more != set) {
+                    best = Math.max(best, worth[more] + ahead[more]);
+                }
+            }
+            return best;
         }
 
         private void weighSets() {
@@ -1191,10 +1199,11 @@ public final class WordsFirst {
         private int startsOf(int set) {
             int words = 0;
             for (int word = 0; word < book.size; word++) {
-                if (hasBit(set, word)) {
-                    int rest = set ^ 1 << word;
+                int bit = 1 << word;
+                if ((set & bit) != 0) {
+                    int rest = set ^ bit;
                     if (rest == 0 || (starts[rest] & behind[word]) != 0) {
-                        words |= 1 << word;
+                        words |= bit;
                     }
                 }
             }
@@ -1242,7 +1251,8 @@ public final class WordsFirst {
         /** SIGNS of WORDS that were read right: none of them is lacking. */
         int proved;
         boolean impossible;
-        final int[] rightCounts;
+        /** By WORD: how many of the sets that may be have none of its SIGNS. */
+        final int[] knownCounts;
         /** By SIGN: the REGULAR WORDS in which it stands. */
         final int[] wordsWith;
 
@@ -1251,7 +1261,7 @@ public final class WordsFirst {
             this.rule = rule;
             this.answers = answers;
             missed = new int[MOST_ANSWERS];
-            rightCounts = new int[MOST_WORDS];
+            knownCounts = new int[MOST_WORDS];
             wordsWith = new int[SIGN_COUNT];
         }
 
@@ -1297,18 +1307,19 @@ public final class WordsFirst {
         }
 
         int bestQuestion() {
-            Arrays.fill(rightCounts, 0);
+            Arrays.fill(knownCounts, 0);
             int sets = 0;
             for (int set = 0; set < SIGN_SETS; set++) {
                 if (fits(set)) {
                     sets++;
-                    countRight(set);
+                    countKnown(set);
                 }
             }
             int best = -1;
             int found = NONE;
             for (int word = 0; word < book.size; word++) {
-                int lesser = Math.min(rightCounts[word], sets - rightCounts[word]);
+                int right = rule.isRegular(word) ? knownCounts[word] : 0;
+                int lesser = Math.min(right, sets - right);
                 if (lesser > best) {
                     best = lesser;
                     found = word;
@@ -1317,10 +1328,10 @@ public final class WordsFirst {
             return found;
         }
 
-        private void countRight(int lacking) {
+        private void countKnown(int lacking) {
             for (int word = 0; word < book.size; word++) {
-                if (rule.isGiven(word, ~lacking)) {
-                    rightCounts[word]++;
+                if ((book.signBits[word] & lacking) == 0) {
+                    knownCounts[word]++;
                 }
             }
         }
@@ -1397,19 +1408,20 @@ public final class WordsFirst {
         }
 
         int bestShare(int child, int n) {
-            if (!found[child]) {
-                findBest(child);
-                found[child] = true;
-            }
             return best[child * (MOST_LESSONS + 1) + n];
         }
 
-        private void findBest(int child) {
+        void findBest(int child) {
+            if (found[child]) {
+                return;
+            }
             findShares(child);
             int known = children.known[child];
             int knownCount = Integer.bitCount(known);
             int from = child * (MOST_LESSONS + 1);
-            Arrays.fill(best, from, from + MOST_LESSONS + 1, 0);
+            for (int n = 0; n <= MOST_LESSONS; n++) {
+                best[from + n] = 0;
+            }
             for (int set = 0; set < SIGN_SETS; set++) {
                 if ((known & ~set) == 0) {
                     int at = from + Integer.bitCount(set) - knownCount;
@@ -1419,6 +1431,7 @@ public final class WordsFirst {
             for (int n = SIGN_COUNT - knownCount + 1; n <= MOST_LESSONS; n++) {
                 best[from + n] = shares[SIGN_SETS - 1];
             }
+            found[child] = true;
         }
 
         /** A WORD counts from its first SIGN on, if it is guessed right, and from all its SIGNS on, if it sounds right. */
@@ -1439,6 +1452,9 @@ public final class WordsFirst {
         }
 
         void split(int n) {
+            for (int child = 0; child < CHILD_COUNT; child++) {
+                findBest(child);
+            }
             splitSum = -1;
             for (int a = 0; a <= n; a++) {
                 for (int b = 0; a + b <= n; b++) {

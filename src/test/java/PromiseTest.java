@@ -223,6 +223,8 @@ public final class PromiseTest {
         due("like ones: the least", x.common(0), 0);
         due("was", x.often(0, 999), 6);
         due("is", x.about(0, 1), 999);
+        due("the least", x.often(1, 1), 6);
+        due("is", x.about(1, 1), 1);
         due("0", x.often(0, 0), OUTSIDE);
         due("1000", x.often(0, 1000), OUTSIDE);
         due("no word", x.often(2, 1), UNKNOWN);
