@@ -2,8 +2,10 @@ import java.util.Random;
 
 /** Long runs of calls by fixed seeds, each answer held against the Oracle's. */
 public final class RandomRunsTest {
-    private static final int RUNS = 400;
-    private static final int CALLS = 300;
+    private static final int RUNS = 800;
+    private static final int MOST_CALLS = 512;
+    /** No step makes more calls than these. */
+    private static final int MOST_CALLS_OF_STEP = 40;
     private static final int KINDS = 32;
     private static int passed = 0;
     private static int failed = 0;
@@ -16,6 +18,7 @@ public final class RandomRunsTest {
     private final int sounds;
     private final boolean withOrder;
     private final int mostOften;
+    private int calls = 0;
 
     private RandomRunsTest(int run) {
         this.run = run;
@@ -37,7 +40,8 @@ public final class RandomRunsTest {
     private void go() {
         int wanted = random.nextInt(13);
         for (int w = 0; w < wanted; w++) addWord();
-        for (int i = 0; i < CALLS; i++) step(random.nextInt(100));
+        while (calls <= MOST_CALLS - MOST_CALLS_OF_STEP) step(random.nextInt(100));
+        if (calls > MOST_CALLS) fail("run " + run + " makes " + calls + " calls on one object");
     }
 
     private void step(int percent) {
@@ -211,11 +215,16 @@ public final class RandomRunsTest {
     }
 
     private void check(String call, long got, long due) {
+        calls++;
         if (got == due) {
             passed++;
             return;
         }
+        fail("run " + run + ": " + call + " answered " + got + ", due is " + due);
+    }
+
+    private static void fail(String what) {
         failed++;
-        if (failed < 40) System.out.println("run " + run + ": " + call + " answered " + got + ", due is " + due);
+        if (failed < 40) System.out.println(what);
     }
 }
