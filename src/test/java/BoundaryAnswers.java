@@ -103,6 +103,8 @@ final class BoundaryAnswers {
         c.due("what is not REGULAR is read wrong by all", x.may(), 1024);
         x.answer(1, true);
         c.due("and right by none", x.may(), 0);
+        x.answer(0, true);
+        c.due("whatever is answered behind it", x.may(), 0);
         c.sentence(21, "He knows no WORD whole");
         WordsFirst y = Checks.book("a=0 9");
         y.knows(0, 1, 1);
@@ -194,6 +196,9 @@ final class BoundaryAnswers {
         twelve.clear();
         for (int word = 0; word < 9; word++) twelve.answer(word, false);
         c.due("the tenth SIGN alone is left", twelve.tells(), 9);
+        twelve.clear();
+        for (int word = 0; word < 9; word++) twelve.answer(word, true);
+        c.due("the tenth SIGN or none", twelve.tells(), 9);
     }
 
     private static void testNone(Checks c) {
@@ -217,6 +222,16 @@ final class BoundaryAnswers {
         c.due("a and b stand together always", Checks.book("ab=01 1", "ba=10 1", "abc=012 1").test(), 5);
         c.due("all five stay so", Checks.book("abcde=01234 1").test(), 1);
         c.due("two fives", Checks.book("abcde=01234 1", "fghij=56789 1").test(), 3);
+        WordsFirst x = Checks.book("ab=01 5", "a=7 4", "b=1 1", "c=2 1");
+        c.due("ab and b tell a from b", x.test(), 1 + 4 + 8);
+        x.often(1, 6);
+        c.due("ab is not REGULAR any more", x.test(), 2 + 4 + 8);
+        x.often(1, 5);
+        c.due("it is again", x.test(), 1 + 4 + 8);
+        WordsFirst y = Checks.book("ab=01 5", "a=7 4", "c=2 1", "cc=22 1");
+        c.due("ab and c", y.test(), 1 + 4);
+        y.often(1, 6);
+        c.due("b stands in no REGULAR WORD any more: a and c", y.test(), 2 + 4);
     }
 
     private static void testOfSeveral(Checks c) {
@@ -289,6 +304,6 @@ final class BoundaryAnswers {
         c.due("the last two of twelve", last.price(1), 1011);
         c.due("of unlike lengths", Checks.book("a=0 1", "aa=00 1", "aaa=000 1").price(1), Checks.NONE);
         c.due("unlike at the last place", Checks.book("abcde=01234 1", "abcdf=01235 1").price(1), Checks.NONE);
-        c.due("alike to the last place", Checks.book("abcde=01234 2", "abcdf=01234 1").price(1), 1);
+        c.due("alike to the last place", Checks.book("abcde=01234 2", "abcdf=01234 1", "j=9 1").price(1), 1);
     }
 }

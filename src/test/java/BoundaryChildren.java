@@ -177,6 +177,15 @@ final class BoundaryChildren {
         reads(c, longer, 3, 1, Checks.NONE);
         Checks.add(longer, "ee=01", 1);
         reads(c, longer, 3, 1, 5);
+        WordsFirst almost = Checks.book("a=0 9", "b=1 9", "ab=05 1", "cd=91 1", "ef=09 1");
+        almost.knows(0, 0, 3);
+        reads(c, almost, 2, 1, Checks.NONE);
+        WordsFirst full = Checks.bookOf(11, 9);
+        Checks.add(full, "ab=77", 1);
+        full.knows(0, 0, 3);
+        reads(c, full, 11, 1, Checks.NONE);
+        full.mix(0, 1, 0);
+        reads(c, full, 1, 1, 0);
     }
 
     private static void readGuessed(Checks c) {

@@ -18,6 +18,8 @@ final class BoundaryLessons {
         imageRefused(c);
         imageKeeps(c);
         imageAgain(c);
+        imageOfOtherWords(c);
+        imageOfFullBook(c);
         restoreRefused(c);
         told(c);
         toldLimits(c);
@@ -55,6 +57,12 @@ final class BoundaryLessons {
         for (int n = 0; n <= 12; n++) c.due("where a is known, by " + n, y.lessons(0, n), less[n]);
         y.knows(0, 0, 3);
         for (int n = 0; n <= 12; n++) c.due("where both are known, by " + n, y.lessons(0, n), 30);
+        WordsFirst both = Checks.book("a=0 5", "ab=01 9");
+        c.due("one sounded, one guessed, by one SIGN", both.lessons(0, 1), 14);
+        WordsFirst full = Checks.bookOf(12, 1);
+        for (int n = 0; n <= 12; n++) c.due("of a full BOOK by " + n, full.lessons(0, n), Math.min(12, 2 * n - Math.max(0, n - 2)));
+        y.knows(2, 1, 3);
+        for (int n = 0; n <= 12; n++) c.due("two WHOLES and no SIGN, by " + n, y.lessons(2, n), 70);
         y.knows(0, 1, 1);
         c.due("WHOLES stay", y.lessons(0, 12), 70);
         y.mix(0, 1, 9);
@@ -308,6 +316,83 @@ final class BoundaryLessons {
         x.often(0, 5);
         x.restore(0);
         c.due("what is changed behind restoring does not change it", x.about(0, 1), 4);
+    }
+
+    private static void isOf(Checks c, WordsFirst x, int word, int... due) {
+        int[] whats = {0, 1, 2, 3, 10, 11, 12, 13, 14, 20, 21, 22, 23, 24};
+        for (int i = 0; i < whats.length; i++) c.due("about(" + word + ", " + whats[i] + ")", x.about(word, whats[i]), due[i]);
+    }
+
+    /** The same numbers are other WORDS in the two IMAGES: nothing of the one may stay behind in the other. */
+    private static void imageOfOtherWords(Checks c) {
+        c.sentence(32, "It is as it was when it was kept");
+        WordsFirst x = new WordsFirst();
+        x.image(0);
+        Checks.add(x, "abc=012", 5);
+        Checks.add(x, "cbbbb=21111", 4);
+        x.knows(0, 0, 7);
+        x.answer(0, true);
+        x.image(1);
+        x.restore(0);
+        for (String text : new String[] {"de=34", "d=3", "edded=43343"}) Checks.add(x, text, 7);
+        x.knows(0, 0, 24);
+        x.answer(1, false);
+        c.due("the longest TALE there", x.tale(0, -1), 3);
+        c.due("ORDER there", x.order(0), 3);
+        c.due("TEST there", x.test(), 3);
+        c.due("restore(1)", x.restore(1), 1);
+        isOf(c, x, 0, 3, 5, 7, 1, 0, 1, 2, Checks.NONE, Checks.NONE, 0, 1, 2, Checks.NONE, Checks.NONE);
+        isOf(c, x, 1, 5, 4, 6, 1, 2, 1, 1, 1, 1, 2, 1, 1, 1, 1);
+        c.due("two WORDS", x.about(2, 0), Checks.UNKNOWN);
+        c.due("COMMON", x.common(3), Checks.NONE);
+        c.due("SHARE", x.share(0), 9);
+        c.due("LESSONS", x.lessons(0, 0), 9);
+        c.due("MAY", x.may(), 128);
+        c.due("TEST", x.test(), 3);
+        c.due("PRICE", x.price(0), 0);
+        c.due("TALE", x.tale(0, -1), 2);
+        c.due("its second", x.tale(0, 1), 1);
+        c.due("ORDER, the sum", x.order(-1), 4 + 9 * 8);
+        c.due("ORDER, the first", x.order(0), 1);
+        x.restore(0);
+        Checks.add(x, "j=9", 1);
+        Checks.add(x, "cb=21", 2);
+        isOf(c, x, 0, 1, 1, 512, 1, 9, Checks.NONE, Checks.NONE, Checks.NONE, Checks.NONE, 9, Checks.NONE, Checks.NONE, Checks.NONE, Checks.NONE);
+        c.due("what j gives", x.gives(512, 0), 1);
+        x.knows(0, 1, 3);
+        c.due("no row of two", x.tale(0, -1), 1);
+        c.due("no ANSWERS", x.may(), 1024);
+    }
+
+    /** Twelve WORDS of five SIGNS, each sign and sound turned on by so much. */
+    private static void addTwelve(WordsFirst x, int turn) {
+        for (int word = 0; word < 12; word++) {
+            StringBuilder text = new StringBuilder("=");
+            for (int place = 0; place < 5; place++) {
+                int number = (word + turn + place * (1 + word / 10)) % 10;
+                text.insert(place, (char) ('a' + number)).append((char) ('0' + number));
+            }
+            Checks.add(x, text.toString(), 1 + word + turn);
+        }
+    }
+
+    private static void imageOfFullBook(Checks c) {
+        c.sentence(32, "It is as it was when it was kept: 1. OUTSIDE");
+        WordsFirst x = new WordsFirst();
+        x.image(0);
+        addTwelve(x, 0);
+        x.image(1);
+        x.restore(0);
+        addTwelve(x, 3);
+        c.due("restore(1)", x.restore(1), 1);
+        for (int word = 0; word < 12; word++) {
+            c.due("OFTEN of " + word, x.about(word, 1), 1 + word);
+            for (int place = 0; place < 5; place++) {
+                int number = (word + place * (1 + word / 10)) % 10;
+                c.due("SIGN " + place + " of " + word, x.about(word, 10 + place), number);
+                c.due("SOUND " + place + " of " + word, x.about(word, 20 + place), number);
+            }
+        }
     }
 
     private static void restoreRefused(Checks c) {

@@ -41,13 +41,22 @@ final class BoundaryOrders {
         ordered(c, Checks.book("aa=01 9"), 0, 0, 1, 2, 3, 4, 5, 6, 7, 8, 9);
         ordered(c, Checks.book("j=9 7"), 70, 9, 0, 1, 2, 3, 4, 5, 6, 7, 8);
         ordered(c, Checks.book("j=9 5", "b=1 5"), 5 + 10 * 9, 1, 9, 0, 2, 3, 4, 5, 6, 7, 8);
+        // The first SIGN comes last, if it alone gives nothing.
+        ordered(c, Checks.book("b=1 1", "c=2 1", "d=3 1", "e=4 1", "f=5 1", "g=6 1", "h=7 1", "i=8 1", "j=9 1"), 54, 1, 2, 3, 4, 5, 6, 7, 8, 9, 0);
+        // Two WORDS with the same SIGNS.
+        ordered(c, Checks.book("ed=43 3", "de=34 4"), 7 * 9, 3, 4, 0, 1, 2, 5, 6, 7, 8, 9);
         // The two SIGNS of one WORD, either first.
         ordered(c, Checks.book("ji=98 5"), 45, 8, 9, 0, 1, 2, 3, 4, 5, 6, 7);
         // b first gives 1 soonest, but c and d together more.
         ordered(c, Checks.book("b=1 1", "dc=32 30"), 30 + 31 * 8, 2, 3, 1, 0, 4, 5, 6, 7, 8, 9);
         // The one SIGN first: 4 + 4 + 12 * 8; the two first: 0 + 8 + 12 * 8: like sums, so the numbers tell.
         ordered(c, Checks.book("cd=23 8", "b=1 4"), 8 + 12 * 8, 1, 2, 3, 0, 4, 5, 6, 7, 8, 9);
-        ordered(c, Checks.book("bc=12 8", "d=3 4"), 8 + 12 * 8, 1, 2, 3, 0, 4, 5, 6, 7, 8, 9);
+        WordsFirst x = Checks.book("bc=12 8", "d=3 4");
+        ordered(c, x, 8 + 12 * 8, 1, 2, 3, 0, 4, 5, 6, 7, 8, 9);
+        x.often(1, 5);
+        ordered(c, x, 5 + 5 + 13 * 8, 3, 1, 2, 0, 4, 5, 6, 7, 8, 9);
+        x.often(1, 4);
+        ordered(c, x, 8 + 12 * 8, 1, 2, 3, 0, 4, 5, 6, 7, 8, 9);
     }
 
     private static void mostNumbers(Checks c) {
@@ -151,6 +160,13 @@ final class BoundaryOrders {
         tale(c, all, 2, 11);
         all.knows(2, 1, 0b101010101010);
         tale(c, all, 2, 1, 3, 5, 7, 9, 11);
+        WordsFirst behind = Checks.book("bc=12 1", "ab=01 1");
+        behind.knows(0, 1, 3);
+        tale(c, behind, 0, 1, 0);
+        WordsFirst last = Checks.book("bc=12 1", "cd=23 1", "de=34 1", "ef=45 1", "fg=56 1", "gh=67 1", "hi=78 1", "ij=89 1", "j=9 1",
+            "jj=99 1", "jjj=999 1", "ab=01 1");
+        last.knows(0, 1, 4095);
+        tale(c, last, 0, 11, 0, 1, 2, 3, 4, 5, 6, 7, 8, 9, 10);
         // Not by SOUNDS: "ab" ends with b, "cb" begins with c, though both SOUND 1 there.
         WordsFirst sounds = Checks.book("ab=01 1", "cb=11 1");
         sounds.knows(0, 1, 3);

@@ -100,6 +100,14 @@ final class BoundaryTerms {
         fraction(c, "lacks 256 by 256", y.lacks(0, 0), y.lacks(0, 1), 1, 1);
         WordsFirst z = Checks.book("a=0 999", "ab=22 1");
         fraction(c, "no common divisor", z.has(0, 0, 0), z.has(0, 0, 1), 999, 1000);
+        fraction(c, "1 by 1000", z.has(0, 2, 0), z.has(0, 2, 1), 1, 1000);
+        fraction(c, "1 by 1", z.has(1, 2, 0), z.has(1, 2, 1), 1, 1);
+        z.often(0, 1);
+        fraction(c, "1 by 2", z.has(0, 0, 0), z.has(0, 0, 1), 1, 2);
+        fraction(c, "2 by 3", z.ruled(0), z.ruled(1), 2, 3);
+        z.often(0, 2);
+        z.often(1, 4);
+        fraction(c, "2 by 6", z.has(0, 0, 0), z.has(0, 0, 1), 1, 3);
     }
 
     private static void fraction(Checks c, String what, long upper, long lower, long dueUpper, long dueLower) {
