@@ -25,7 +25,7 @@ final class BoundaryAnswers {
     }
 
     private static void answersFull(Checks c) {
-        c.sentence(19, "a WORD, right or wrong (20 at most; none at first)");
+        c.sentence(19, "what one who lacks some SIGNS read: a WORD, right or wrong (20 at most; none at first)");
         WordsFirst x = Checks.book("a=0 1");
         c.due("none at first", x.told(2), 0);
         for (int i = 1; i <= 20; i++) c.due("ANSWER " + i, x.answer(0, true), i);
@@ -170,7 +170,7 @@ final class BoundaryAnswers {
     }
 
     private static void tellsOfSeveral(Checks c) {
-        c.sentence(23, "the WORD by which, right or wrong, the lesser part of MAY is greatest, the least such");
+        c.sentence(23, "TELLS: the WORD by which, right or wrong, the lesser part of MAY is greatest, the least such");
         WordsFirst x = Checks.book("ab=01 1", "c=2 1", "d=3 1");
         c.due("halves by c and d", x.tells(), 1);
         x.answer(1, true);
@@ -240,7 +240,7 @@ final class BoundaryAnswers {
         // Any two of "ab", "b", "a" tell a, b and none apart.
         c.due("two of three", Checks.book("ab=01 1", "b=1 1", "a=0 1").test(), 3);
         c.due("behind one that is not REGULAR", Checks.book("cc=01 1", "ab=01 1", "b=1 1", "a=0 1").test(), 6);
-        c.sentence(24, "TEST: the fewest REGULAR WORDS");
+        c.sentence(24, "TEST: the fewest REGULAR WORDS by which, who lacks one SIGN at most that stands in some REGULAR WORD, it is told which");
         // The three short ones would be less as bits, 7; but "ab" and "ac" are fewer, and no other two tell all apart.
         c.due("fewest ahead of least", Checks.book("a=0 1", "b=1 1", "c=2 1", "ab=01 1", "ac=02 1").test(), 24);
     }
@@ -265,7 +265,7 @@ final class BoundaryAnswers {
     }
 
     private static void respeltOfSeveral(Checks c) {
-        c.sentence(25, "each SOUND is written with the SIGN that has it most (counted in places, as often as WORDS; the least such)");
+        c.sentence(25, "NEW SPELLING: each SOUND is written with the SIGN that has it most (counted in places, as often as WORDS; the least such)");
         WordsFirst x = Checks.book("j=5 4", "b=5 4", "cc=57 2");
         c.due("of b and j with like numbers", x.respelt(0, 0), 1);
         c.due("itself", x.respelt(1, 0), 1);

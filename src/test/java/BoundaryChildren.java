@@ -114,7 +114,7 @@ final class BoundaryChildren {
     }
 
     private static void readWhole(Checks c) {
-        c.sentence(13, "0 WHOLE, if it is known so: right.");
+        c.sentence(13, "READING a WORD: 0 WHOLE, if it is known so: right.");
         WordsFirst x = Checks.book("a=0 9", "ab=31 1", "c=0 1");
         x.knows(0, 1, 7);
         reads(c, x, 1, 0, 1);
@@ -275,7 +275,8 @@ final class BoundaryChildren {
     }
 
     private static void gives(Checks c) {
-        c.sentence(15, "OFTEN of REGULAR WORDS all of whose SIGNS are among them, and of those that are WHOLE, together.");
+        c.sentence(15, "What SIGNS (bits) and WHOLES give: OFTEN of REGULAR WORDS all of whose SIGNS are among them, "
+            + "and of those that are WHOLE, together.");
         WordsFirst x = Checks.book("abcde=01234 7", "a=9 5", "j=9 3");
         c.due("all its SIGNS", x.gives(31, 0), 7);
         for (int sign = 0; sign < 5; sign++) c.due("all but " + sign, x.gives(1023 ^ 1 << sign, 0), 3);

@@ -41,7 +41,7 @@ final class BoundaryLessons {
     }
 
     private static void lessons(Checks c) {
-        c.sentence(27, "the greatest SHARE by n SIGNS more (of those that it does not know; by all, if there are fewer)");
+        c.sentence(27, "Of a CHILD by n LESSONS: the greatest SHARE by n SIGNS more (of those that it does not know; by all, if there are fewer)");
         WordsFirst x = Checks.bookOf(10, 1);
         for (int n = 0; n <= 12; n++) c.due("of ten SIGNS by " + n, x.lessons(0, n), Math.min(10, n));
         x.knows(1, 0, 1023 - 512);
@@ -116,7 +116,7 @@ final class BoundaryLessons {
     }
 
     private static void sharedNumbers(Checks c) {
-        c.sentence(28, "n LESSONS (0 to 12) so that their SHARES are greatest together");
+        c.sentence(28, "SHARED among the four: n LESSONS (0 to 12) so that their SHARES are greatest together");
         // b alone reads "ba" by a guess: so one each is more than two for one.
         WordsFirst x = Checks.book("bc=12 9", "bd=13 30", "ba=10 31", "a=0 1");
         split(c, x, 1, 31, 0, 0, 0, 1);
@@ -162,7 +162,7 @@ final class BoundaryLessons {
     }
 
     private static void itselfLine(Checks c) {
-        c.sentence(29, "when its SHARE is LINE thousandths of all OFTEN or more (0 to 1000)");
+        c.sentence(29, "a CHILD reads by ROUNDS: when its SHARE is LINE thousandths of all OFTEN or more (0 to 1000)");
         WordsFirst x = Checks.book("a=0 1", "b=1 2");
         byItself(c, x, 0, 2, 3);
         byItself(c, x, 1, 0, 0);
@@ -283,7 +283,7 @@ final class BoundaryLessons {
             c.due("no WORD, no WHOLE", y.told(20), 0);
             c.due("the same letters may come again", Checks.add(y, "a=0", 1), 0);
         }
-        c.sentence(32, "All but the PAD is kept");
+        c.sentence(31, "All but the PAD is kept");
         WordsFirst x = rich();
         Checks.spell(x, "c=");
         x.image(0);

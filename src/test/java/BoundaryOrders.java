@@ -143,7 +143,7 @@ final class BoundaryOrders {
     }
 
     private static void taleRows(Checks c) {
-        c.sentence(18, "a row of unlike WORDS that it CAN READ, each beginning with the SIGN with which the one ahead ends: the longest");
+        c.sentence(18, "TALE of a CHILD: a row of unlike WORDS that it CAN READ, each beginning with the SIGN with which the one ahead ends: the longest");
         WordsFirst x = Checks.book("aa=00 1");
         x.knows(0, 1, 1);
         tale(c, x, 0, 0);

@@ -32,14 +32,14 @@ final class BoundaryTerms {
     }
 
     private static void constants(Checks c) {
-        c.sentence(Checks.TERMS, "`UNKNOWN = -1, OUTSIDE = -2, STATE = -3, FULL = -4, NO = -5, NONE = -6`");
+        c.sentence(Checks.TERMS, "The constants: `UNKNOWN = -1, OUTSIDE = -2, STATE = -3, FULL = -4, NO = -5, NONE = -6`");
         c.due("UNKNOWN", WordsFirst.UNKNOWN, -1);
         c.due("OUTSIDE", WordsFirst.OUTSIDE, -2);
         c.due("STATE", WordsFirst.STATE, -3);
         c.due("FULL", WordsFirst.FULL, -4);
         c.due("NO", WordsFirst.NO, -5);
         c.due("NONE", WordsFirst.NONE, -6);
-        c.sentence(Checks.TERMS, "`LOST = -1000000000000000000L`");
+        c.sentence(Checks.TERMS, "`LOST = -1000000000000000000L`: What is told of fractions that are refused");
         c.due("LOST", WordsFirst.LOST, -1000000000000000000L);
     }
 
@@ -83,7 +83,7 @@ final class BoundaryTerms {
     }
 
     private static void lowestTerms(Checks c) {
-        c.sentence(Checks.TERMS, "part: 0 the upper, 1 the lower number, in lowest terms (0 by 1 for nothing)");
+        c.sentence(Checks.TERMS, "Fractions are told by part: 0 the upper, 1 the lower number, in lowest terms (0 by 1 for nothing)");
         WordsFirst x = Checks.book("a=0 12", "ab=11 18");
         fraction(c, "has 12 by 30", x.has(0, 0, 0), x.has(0, 0, 1), 2, 5);
         fraction(c, "has 0 by 30", x.has(0, 2, 0), x.has(0, 2, 1), 0, 1);

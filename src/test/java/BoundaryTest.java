@@ -1,6 +1,6 @@
 import java.io.IOException;
 
-/** For each sentence of the document that names a boundary case a test of its own, which names the promise and the sentence. */
+/** For each sentence of the document a test of its own, boundary cases above all, which names the promise and the sentence. */
 public final class BoundaryTest {
     private BoundaryTest() {
     }
@@ -13,6 +13,7 @@ public final class BoundaryTest {
         BoundaryOrders.run(c);
         BoundaryAnswers.run(c);
         BoundaryLessons.run(c);
+        OrdinaryCases.run(c);
         c.end();
     }
 }

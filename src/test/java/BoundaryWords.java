@@ -145,7 +145,7 @@ final class BoundaryWords {
         c.due("a = ahead of the first one, all else right", faultOf("=a=0"), 0);
         c.due("a digit more", faultOf("a=00"), 3);
         c.due("a sixth digit", faultOf("abcde=012345"), 11);
-        c.sentence(4, "the place (from 0 on) of the first sign that can not stand there");
+        c.sentence(4, "THE FAULT is the place (from 0 on) of the first sign that can not stand there");
         c.due("two", faultOf("a!b?=01"), 1);
         c.due("a later = does not mend it", faultOf("=a=0"), 0);
         c.due("at the last place of a full PAD", faultOf("abcdeabcdeabcd"), 5);
@@ -230,7 +230,7 @@ final class BoundaryWords {
     }
 
     private static void aboutNumbers(Checks c) {
-        c.sentence(6, "0 how many letters, 1 OFTEN, 2 SIGNS as bits, 3 whether it is REGULAR (1, 0), 10 to 14 its SIGNS, 20 to 24 its SOUNDS");
+        c.sentence(6, "Of a WORD: 0 how many letters, 1 OFTEN, 2 SIGNS as bits, 3 whether it is REGULAR (1, 0), 10 to 14 its SIGNS, 20 to 24 its SOUNDS");
         WordsFirst x = Checks.book("ajbic=09183 999", "j=9 1");
         int[] whats = {0, 1, 2, 3, 10, 11, 12, 13, 14, 20, 21, 22, 23, 24};
         int[] dues = {5, 999, 1 | 512 | 2 | 256 | 4, 1, 0, 9, 1, 8, 2, 0, 9, 1, 8, 3};
@@ -310,7 +310,7 @@ final class BoundaryWords {
             c.due("SOUND " + sign + " of a SIGN that stands nowhere", x.has(5, sign, 1), Checks.LOST - 2);
         }
         for (int part : NO_PARTS) c.due("part " + part, x.has(0, 0, part), Checks.LOST - 2);
-        c.sentence(8, "of all places of THE BOOK where it stands (each counted as often as its WORD) those where it has that");
+        c.sentence(8, "A SIGN HAS a SOUND: of all places of THE BOOK where it stands (each counted as often as its WORD) those where it has that");
         WordsFirst y = Checks.book("aaaaa=01000 999", "aa=22 1");
         c.due("one place of six, the upper number", y.has(0, 1, 0), 999);
         c.due("one place of six, the lower number", y.has(0, 1, 1), 4997);

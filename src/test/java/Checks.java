@@ -1,6 +1,4 @@
 import java.io.IOException;
-import java.nio.file.Files;
-import java.nio.file.Path;
 import java.util.Set;
 import java.util.TreeSet;
 
@@ -13,21 +11,21 @@ final class Checks {
     static final int TERMS = 0;
     static final int PROMISES = 33;
 
-    private final String document;
+    private final Document document;
     private final Set<Integer> promises = new TreeSet<>();
     private String where = "";
     private int passed = 0;
     private int failed = 0;
 
     Checks(String pathOfDocument) throws IOException {
-        document = Files.readString(Path.of(pathOfDocument)).replaceAll("\\s+", " ");
+        document = new Document(pathOfDocument);
     }
 
-    /** What follows holds this sentence, which must stand in the document. */
+    /** What follows holds this sentence, which must stand in the document's terms or at this promise. */
     void sentence(int promise, String words) {
         promises.add(promise);
         where = (promise == TERMS ? "terms" : "promise " + promise) + ", \"" + words + "\"";
-        if (!document.contains(words)) {
+        if (!document.quote(promise, words)) {
             failed++;
             System.out.println(where + " does not stand in the document");
         }
@@ -48,6 +46,10 @@ final class Checks {
                 failed++;
                 System.out.println("no sentence of promise " + promise + " is tested");
             }
+        }
+        for (String sentence : document.unquoted()) {
+            failed++;
+            System.out.println("no test of " + sentence);
         }
         System.out.println(passed + " passed, " + failed + " failed");
         if (failed > 0) System.exit(1);

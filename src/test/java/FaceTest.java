@@ -5,7 +5,6 @@ import java.lang.reflect.Method;
 import java.lang.reflect.Modifier;
 import java.nio.file.Files;
 import java.nio.file.Path;
-import java.util.Arrays;
 import java.util.Set;
 import java.util.TreeSet;
 import java.util.regex.Matcher;
@@ -13,13 +12,6 @@ import java.util.regex.Pattern;
 
 /** The public face is the document's and no more; the source keeps to LANGUAGE.md where a look at it can tell; calls make no objects. */
 public final class FaceTest {
-    private static final String[] FACE = {
-        "int say(int)", "int wipe()", "int fault()", "int word(int)", "int about(int,int)", "int often(int,int)",
-        "long has(int,int,int)", "int common(int)", "long ruled(int)", "int knows(int,int,int)", "int mix(int,int,int)",
-        "int read(int,int,int)", "int share(int)", "int gives(int,int)", "int order(int)", "int most(int,int,int)",
-        "int tale(int,int)", "int answer(int,boolean)", "int clear()", "int may()", "long lacks(int,int)", "int tells()",
-        "int test()", "int respelt(int,int)", "int price(int)", "int lessons(int,int)", "int shared(int,int)",
-        "int itself(int,int,int)", "int line(int)", "int image(int)", "int restore(int)", "int told(int)"};
     private static final String[] NOT_IN_SOURCE = {"throw", "throws", "try", "catch", "synchronized", "assert", "package",
         "protected", "System.out", "->", "::", "hashCode", "toString", "equals", "Exact", "double", "float", "while"};
     private static int passed = 0;
@@ -35,53 +27,135 @@ public final class FaceTest {
     }
 
     public static void main(String[] args) throws Exception {
-        checkMethods();
-        checkFieldsAndConstructor();
+        String source = Files.readString(Path.of(args.length > 0 ? args[0] : "src/main/java/WordsFirst.java"));
+        String document = Files.readString(Path.of(args.length > 1 ? args[1] : "../shared/DOC.md"));
+        checkMembers(document);
+        checkNothingBeside();
+        checkPromises(document, source);
+        checkHeadings(document, source);
+        checkNames();
         checkClassesInside();
-        checkSource(Files.readString(Path.of(args.length > 0 ? args[0] : "src/main/java/WordsFirst.java")));
+        checkSource(source);
         checkRoom();
         System.out.println(passed + " passed, " + failed + " failed");
         if (failed > 0) System.exit(1);
     }
 
-    private static String told(Method m) {
-        StringBuilder b = new StringBuilder(m.getReturnType() + " " + m.getName() + "(");
-        for (int i = 0; i < m.getParameterCount(); i++) b.append(i > 0 ? "," : "").append(m.getParameterTypes()[i]);
+    /** The document's face: what stands in its one Java block. */
+    private static String faceOf(String document) {
+        Matcher m = Pattern.compile("(?s)```java\n(.*?)```").matcher(document);
+        return m.find() ? m.group(1) : "";
+    }
+
+    /** "public int say(int sign)" without the names of its numbers: "public int say(int)". */
+    private static String withoutNames(String told) {
+        return told.replaceAll("(int|long|boolean) \\w+(?=[,)])", "$1").replace(", ", ",");
+    }
+
+    private static Set<String> membersOfFace(String face) {
+        Set<String> members = new TreeSet<>();
+        for (String line : face.split("\n")) {
+            Matcher call = Pattern.compile("^ +(public [\\w ]*\\(.*\\));$").matcher(line);
+            if (call.find()) members.add(withoutNames(call.group(1)));
+            Matcher constants = Pattern.compile("^ +(public static final \\w+) (.*);$").matcher(line);
+            if (!constants.find()) continue;
+            for (String constant : constants.group(2).split(", ")) members.add(constants.group(1) + " " + constant.replaceAll("L$", ""));
+        }
+        return members;
+    }
+
+    private static String told(String kind, String name, Class<?>... parameters) {
+        StringBuilder b = new StringBuilder("public " + kind + name + "(");
+        for (int i = 0; i < parameters.length; i++) b.append(i > 0 ? "," : "").append(parameters[i]);
         return b.append(")").toString();
     }
 
-    private static void checkMethods() {
-        Set<String> open = new TreeSet<>();
-        Set<String> openNames = new TreeSet<>();
+    private static Set<String> membersOfClass() throws IllegalAccessException {
+        Set<String> members = new TreeSet<>();
         for (Method m : WordsFirst.class.getDeclaredMethods()) {
-            if (Modifier.isPrivate(m.getModifiers())) continue;
-            open.add(told(m));
-            openNames.add(m.getName());
-            check(told(m) + " is public", Modifier.isPublic(m.getModifiers()));
-            check(told(m) + " is not static", !Modifier.isStatic(m.getModifiers()));
+            if (!Modifier.isPublic(m.getModifiers())) continue;
+            members.add(told((Modifier.isStatic(m.getModifiers()) ? "static " : "") + m.getReturnType() + " ", m.getName(), m.getParameterTypes()));
         }
-        check("the methods are the document's: " + open, open.equals(new TreeSet<>(Arrays.asList(FACE))));
+        for (Constructor<?> made : WordsFirst.class.getDeclaredConstructors()) {
+            if (Modifier.isPublic(made.getModifiers())) members.add(told("", "WordsFirst", made.getParameterTypes()));
+        }
+        for (Field f : WordsFirst.class.getDeclaredFields()) {
+            if (!Modifier.isPublic(f.getModifiers())) continue;
+            members.add(Modifier.toString(f.getModifiers()) + " " + f.getType() + " " + f.getName() + " = " + f.get(null));
+        }
+        return members;
+    }
+
+    /** Both ways, so that a missing member is told as well as one that the document does not name. */
+    private static void checkMembers(String document) throws IllegalAccessException {
+        String face = faceOf(document);
+        check("the face is that of a public final class", face.startsWith("public final class WordsFirst {"));
+        check("the class is public and final", Modifier.toString(WordsFirst.class.getModifiers()).equals("public final"));
+        Set<String> due = membersOfFace(face);
+        Set<String> got = membersOfClass();
+        check("32 calls, a constructor and 7 constants: " + due.size(), due.size() == 40);
+        for (String member : due) check("the class has " + member, got.contains(member));
+        for (String member : got) check("the document has " + member, due.contains(member));
+    }
+
+    private static void checkNothingBeside() {
+        check("no class above it", WordsFirst.class.getSuperclass() == Object.class);
+        check("no interface", WordsFirst.class.getInterfaces().length == 0);
+        check("one constructor", WordsFirst.class.getDeclaredConstructors().length == 1);
+        check("no package", WordsFirst.class.getPackageName().isEmpty());
         for (Method m : WordsFirst.class.getDeclaredMethods()) {
-            if (Modifier.isPrivate(m.getModifiers())) check(m.getName() + " is no public name", !openNames.contains(m.getName()));
+            check(m + " is public or private", Modifier.isPublic(m.getModifiers()) || Modifier.isPrivate(m.getModifiers()));
+            check(m + " names no exception", m.getExceptionTypes().length == 0);
         }
-        for (Class<?> inside : WordsFirst.class.getDeclaredClasses()) {
-            for (Method m : inside.getDeclaredMethods()) check(inside.getName() + "." + m.getName() + " is no public name", !openNames.contains(m.getName()));
+        for (Field f : WordsFirst.class.getDeclaredFields()) {
+            check(f + " is public or private", Modifier.isPublic(f.getModifiers()) || Modifier.isPrivate(f.getModifiers()));
+            if (Modifier.isStatic(f.getModifiers())) check(f + " is final", Modifier.isFinal(f.getModifiers()));
+            else check(f + " is private", Modifier.isPrivate(f.getModifiers()));
         }
     }
 
-    private static void checkFieldsAndConstructor() {
-        Set<String> open = new TreeSet<>();
-        for (Field f : WordsFirst.class.getDeclaredFields()) {
-            if (Modifier.isStatic(f.getModifiers())) check(f + " is final", Modifier.isFinal(f.getModifiers()));
-            if (!Modifier.isPrivate(f.getModifiers())) open.add(f.toString());
+    /** Each promise names its call as the face does, and the class says at the call which promise it keeps. */
+    private static void checkPromises(String document, String source) {
+        Matcher m = Pattern.compile("## Promise (\\d+): [^\n]*\n\n`([^`]*)`").matcher(document);
+        int promises = 0;
+        while (m.find()) {
+            promises++;
+            check("promise " + m.group(1) + " is the next", Integer.parseInt(m.group(1)) == promises);
+            check("promise " + promises + ": the face has " + m.group(2), faceOf(document).contains("public " + m.group(2) + ";"));
+            check("promise " + promises + ": the class says so", source.contains("/** Promise " + promises + ". */\n    public " + m.group(2) + " {"));
         }
-        Set<String> due = new TreeSet<>();
-        for (String name : new String[] {"UNKNOWN", "OUTSIDE", "STATE", "FULL", "NO", "NONE"}) due.add("public static final int WordsFirst." + name);
-        due.add("public static final long WordsFirst.LOST");
-        check("the constants are the document's: " + open, open.equals(due));
-        Constructor<?>[] all = WordsFirst.class.getDeclaredConstructors();
-        check("one public constructor without parameters", all.length == 1 && all[0].getParameterCount() == 0 && Modifier.isPublic(all[0].getModifiers()));
-        check("public final", Modifier.isFinal(WordsFirst.class.getModifiers()) && Modifier.isPublic(WordsFirst.class.getModifiers()));
+        check("33 promises", promises == 33);
+    }
+
+    /** "Ahead of the calls `say`, .. the interface says: ---- 1 words." */
+    private static void checkHeadings(String document, String source) {
+        Matcher m = Pattern.compile("Ahead of the calls (.*) the interface says: (---- \\d .*)\\.").matcher(document);
+        int headings = 0;
+        while (m.find()) {
+            headings++;
+            int from = source.indexOf("// " + m.group(2) + "\n");
+            int to = source.indexOf("// ----", from + 1);
+            check("the class says: " + m.group(2), from >= 0 && to > from);
+            if (from < 0 || to < from) continue;
+            StringBuilder calls = new StringBuilder();
+            Matcher call = Pattern.compile("public \\w+ (\\w+)\\(").matcher(source.substring(from, to));
+            while (call.find()) calls.append(calls.length() > 0 ? ", " : "").append("`").append(call.group(1)).append("`");
+            check(m.group(2) + " stands ahead of " + m.group(1), calls.toString().equals(m.group(1)));
+        }
+        check("five headings", headings == 5);
+    }
+
+    private static void checkNames() {
+        Set<String> open = new TreeSet<>();
+        for (Method m : WordsFirst.class.getDeclaredMethods()) {
+            if (Modifier.isPublic(m.getModifiers())) open.add(m.getName());
+        }
+        for (Method m : WordsFirst.class.getDeclaredMethods()) {
+            if (Modifier.isPrivate(m.getModifiers())) check(m.getName() + " is no public name", !open.contains(m.getName()));
+        }
+        for (Class<?> inside : WordsFirst.class.getDeclaredClasses()) {
+            for (Method m : inside.getDeclaredMethods()) check(inside.getName() + "." + m.getName() + " is no public name", !open.contains(m.getName()));
+        }
     }
 
     private static void checkClassesInside() {
